@@ -551,7 +551,7 @@ public final class NulledForest {
     private final int[] ends = new int[MAKERS * PLACES];
     private final int[] queue = new int[MOST_USED];
     private int count;
-    private final int[] reached = new int[MOST_RIGHT + 1];
+    private final int[] reached = new int[MOST_RIGHT];
     private final int[] ways = new int[PLACES];
 
     Uses(Grammar grammar, Chart chart) {
@@ -598,11 +598,11 @@ public final class NulledForest {
 
     private void takeParts(int rule, int i, int j) {
       reached[0] = 1 << i;
-      for (int dot = 0; dot < grammar.size[rule]; dot++) {
+      for (int dot = 0; dot < grammar.size[rule] - 1; dot++) {
         reached[dot + 1] = chart.beyond(grammar.symbol(rule, dot), reached[dot]);
       }
       // Back from the end: only places from which the rest of the rule makes the rest of the part.
-      int wanted = reached[grammar.size[rule]] & 1 << j;
+      int wanted = 1 << j;
       for (int dot = grammar.size[rule] - 1; dot >= 0; dot--) {
         wanted = takeSymbol(grammar.symbol(rule, dot), reached[dot], wanted);
       }
