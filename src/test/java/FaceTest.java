@@ -8,7 +8,7 @@ import java.util.TreeSet;
 
 /** The public face of the document, and that nothing else of the class can be seen. */
 public final class FaceTest {
-  private static final Checks checks = new Checks();
+  private static final Checks checks = new Checks("FaceTest");
 
   private static final String[] FACE = {
     "public int NulledForest.rule(int,int,int,int,int)",
@@ -63,7 +63,7 @@ public final class FaceTest {
       checks.due(inside + " is static", Modifier.isStatic(m), true);
       checks.due(inside + " is hidden", Modifier.isPublic(m) || Modifier.isProtected(m), false);
     }
-    checks.end("FaceTest");
+    checks.end();
   }
 
   private static void same(Set<String> want, Set<String> seen) {
