@@ -82,7 +82,7 @@ public final class CallsTest {
   private static void dearCalls() {
     checks.says("An object is used for at most 512 calls after it has been made");
     x = new NulledForest();
-    new World("sixty states, ten words", Grammars.SIXTY, Checks.times(6, 10)).make(x);
+    new World("60 states, ten words", Grammars.SIXTY, Checks.times(6, 10)).make(x);
     calls = Grammars.SIXTY.length + 10;
     int[] r = Grammars.TO_76;
     while (calls + 18 <= Subject.MOST_CALLS) {

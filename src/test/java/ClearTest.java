@@ -7,6 +7,8 @@ public final class ClearTest {
     emptyText();
     howMany();
     sameAsNew();
+    anotherGrammar();
+    otherStates();
     checks.end();
   }
 
@@ -70,6 +72,33 @@ public final class ClearTest {
         Questions.askSome(x);
         x.clear();
       }, x -> { });
+    }
+  }
+
+  /** A state of the grammar that was holds items that no state of the next one holds together. */
+  private static void otherStates() {
+    checks.says("There are no rules");
+    Subject x = checks.grammar(new int[][] {{1, 9, 8}, {1, 9, 7}, {0, 6, 7, 8, 1}});
+    checks.due("states()", x.states(), 9);
+    x.clear();
+    checks.rule(x, 0, 0, 6, 9);
+    checks.rule(x, 1, 0, 7, 9);
+    checks.due("states() of the next grammar", x.states(), 6);
+    checks.moves(x, new int[][] {{0, 0, 1}, {0, 6, 2}, {0, 7, 3}, {2, 9, 4}, {3, 9, 5}});
+  }
+
+  /** Nothing of the grammar that was shows in the next one. */
+  private static void anotherGrammar() {
+    checks.says("There are no rules, and the text is empty.");
+    for (World world : World.all()) {
+      for (World next : World.all()) {
+        Questions.same(checks, next.name() + " behind " + world.name(), x -> {
+          world.make(x);
+          Questions.askSome(x);
+          x.clear();
+          next.make(x);
+        }, next::make);
+      }
     }
   }
 }

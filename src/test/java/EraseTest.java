@@ -7,6 +7,7 @@ public final class EraseTest {
     howLong();
     rulesStay();
     sameAsNeverWritten();
+    anotherText();
     checks.end();
   }
 
@@ -62,6 +63,22 @@ public final class EraseTest {
         Questions.askSome(x);
         x.erase();
       }, world::makeRules);
+    }
+  }
+
+  /** Nothing of the text that was shows in the next one. */
+  private static void anotherText() {
+    checks.says("The text is empty then.");
+    for (World world : World.all()) {
+      for (int[] next : new int[][] {{6}, {7, 6}, {6, 6, 7, 7}, Checks.times(6, 5), Checks.times(6, 10)}) {
+        World other = new World("", world.rules(), next);
+        Questions.same(checks, "another text behind " + world.name(), x -> {
+          world.make(x);
+          Questions.askSome(x);
+          x.erase();
+          other.makeText(x);
+        }, other::make);
+      }
     }
   }
 }

@@ -10,6 +10,7 @@ public final class FrontierTest {
     emptyPartsAtEveryPlace();
     nothingGoesOn();
     partsOfManyWords();
+    eachSymbol();
     noSuchPlace();
     noSuchState();
     sixtyStates();
@@ -86,6 +87,20 @@ public final class FrontierTest {
     for (int place = 0; place < 10; place++) {
       checks.due("stands(" + place + ", leads(0, 0))", x.stands(place, 1), false);
       checks.due("stands(" + place + ", leads(0, 1))", x.stands(place, x.leads(0, 1)), place == 4);
+    }
+  }
+
+  /** Each word, and each maker, leads to its own state behind the word. */
+  private static void eachSymbol() {
+    checks.says("the states to which a row of symbols leads from state 0");
+    int[][] rules = {{0, 1}, {0, 2}, {0, 3}, {0, 4}, {0, 5}, {1, 6}, {2, 7}, {3, 8}, {4, 9}, {5, 6}};
+    checks.frontier(checks.grammar(rules, 6), 1, 1, 2, 6, 7);
+    checks.frontier(checks.grammar(rules, 7), 1, 1, 3, 8);
+    checks.frontier(checks.grammar(rules, 8), 1, 1, 4, 9);
+    checks.frontier(checks.grammar(rules, 9), 1, 1, 5, 10);
+    for (int w = 6; w < 10; w++) {
+      checks.frontier(checks.grammar(new int[][] {{0, w}}, w), 1, 1, 2);
+      checks.frontier(checks.grammar(new int[][] {{0, w}}, w == 9 ? 6 : w + 1), 1);
     }
   }
 

@@ -11,6 +11,10 @@ final class Grammars {
       {2, 6, 6, 2, 6}, {2, 6, 1, 6, 6}, {0, 0, 6, 0, 1}, {2, 6, 6, 6, 1}, {1, 1, 0, 6, 1}, {1, 6, 6, 1, 6},
       {2, 6, 2, 6, 2}, {1}, {2}};
 
+  /** 29 states: all but the rules 8, 9 and 10 of SIXTY. */
+  static final int[][] FROM_29 = {{0, 6, 6, 1, 6}, {2, 6, 0, 1, 6}, {0, 6, 6, 6, 2}, {0, 6, 1, 2, 1},
+      {2, 6, 6, 2, 6}, {2, 6, 1, 6, 6}, {0, 0, 6, 0, 1}, {2, 6, 6, 6, 1}, {1}, {2}};
+
   /** Rules that would bring SIXTY to 61 and to 76 states. */
   static final int[] TO_61 = {0, 6, 2, 6, 6};
   static final int[] TO_76 = {1, 6, 6, 0, 2};
@@ -34,6 +38,10 @@ final class Grammars {
 
   static final int[][] TENS = {{3, 5, 5, 5}, {3, 5, 5, 6, 7}, {3, 5, 6, 7, 5}, {3, 5, 6, 7, 6, 7},
       {3, 6, 7, 5, 5}, {3, 6, 7, 5, 6, 7}, {3, 6, 7, 6, 7, 5}, {3, 6, 7, 6, 7, 6, 7}, {4, 5}, {4, 6, 7}};
+
+  /** Long rows: 1365 rules for the empty text, and 683 more for each six. */
+  static final int[][] LONG = {{0, 1, 1, 1, 1}, {1, 2, 2, 2, 2}, {2, 3, 3, 3, 3}, {3, 4, 4, 4, 4}, {4, 5, 5, 5, 5},
+      {5}, {0, 6, 0, 1, 1}};
 
   private Grammars() {}
 

@@ -6,6 +6,7 @@ public final class LengthTest {
   public static void main(String[] args) {
     howLong();
     ofEachTree();
+    byCutsOfOtherLengths();
     longRows();
     endless();
     noTree();
@@ -42,11 +43,26 @@ public final class LengthTest {
     checks.due("length(-1)", x.length(-1), Subject.ELEMENT);
   }
 
+  /** The first tree is that of the first cut, or of the first rule, not the shortest and not the last. */
+  private static void byCutsOfOtherLengths() {
+    checks.says("How long the row of rules of tree k is.");
+    Subject x = checks.grammar(new int[][] {{0, 1, 2}, {1, 6, 1}, {1}, {2, 6}, {2, 6, 6}}, 6, 6);
+    checks.due("length(0), cut at 0", x.length(0), 3);
+    checks.due("length(1), cut at 1", x.length(1), 4);
+    checks.due("length(2)", x.length(2), Subject.ELEMENT);
+    Subject y = checks.grammar(new int[][] {{0, 2, 1}, {1, 6, 1}, {1}, {2, 6}, {2, 6, 6}}, 6, 6);
+    checks.due("length(0), cut at 1", y.length(0), 4);
+    checks.due("length(1), cut at 2", y.length(1), 3);
+    Subject z = checks.grammar(new int[][] {{0, 6}, {0, 1}, {1, 2}, {2, 6}, {1, 6}}, 6);
+    checks.due("length(0), the shortest", z.length(0), 1);
+    checks.due("length(1), the longest", z.length(1), 3);
+    checks.due("length(2)", z.length(2), 2);
+  }
+
   private static void longRows() {
     checks.says("How long the row of rules of tree k is.");
-    int[][] rules = {{0, 1, 1, 1, 1}, {1, 2, 2, 2, 2}, {2, 3, 3, 3, 3}, {3, 4, 4, 4, 4}, {4, 5, 5, 5, 5}, {5}, {0, 6, 0, 1, 1}};
     for (int length = 0; length <= 10; length++) {
-      length(1365 + 683 * length, rules, Checks.times(6, length));
+      length(1365 + 683 * length, Grammars.LONG, Checks.times(6, length));
     }
     Subject x = checks.grammar(Grammars.DIGITS, 6);
     for (int k : new int[] {0, 1, 7, 10, 777777777, 888888888, 123456789, 999999998, 999999999}) {

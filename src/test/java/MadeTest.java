@@ -119,7 +119,6 @@ public final class MadeTest {
   /** Ten words, two long empty parts behind each, and behind them all the longest empty part there is. */
   private static void longRow() {
     checks.says("Rule i (from 0) in the row of rules of tree k.");
-    int[][] rules = {{0, 1, 1, 1, 1}, {1, 2, 2, 2, 2}, {2, 3, 3, 3, 3}, {3, 4, 4, 4, 4}, {4, 5, 5, 5, 5}, {5}, {0, 6, 0, 1, 1}};
     int[] row = new int[8195];
     java.util.Arrays.fill(row, 0, 10, 6);
     int size = write(row, 10, 0);
@@ -127,12 +126,13 @@ public final class MadeTest {
       size = write(row, size, 1);
     }
     checks.due("rules written", size, 8195);
-    checks.row(checks.grammar(rules, Checks.times(6, 10)), 0, row);
+    checks.row(checks.grammar(Grammars.LONG, Checks.times(6, 10)), 0, row);
   }
 
   private static void deepRow() {
     checks.says("Rule i (from 0) in the row of rules of tree k.");
-    Subject x = checks.grammar(new int[][] {{0, 1}, {1, 2}, {2, 3}, {3, 4}, {4, 5}, {5, 6, 0}, {5, 6}}, Checks.times(6, 10));
+    int[][] rules = {{0, 1}, {1, 2}, {2, 3}, {3, 4}, {4, 5}, {5, 6, 0}, {5, 6}};
+    Subject x = checks.grammar(rules, Checks.times(6, 10));
     int[] row = new int[60];
     for (int i = 0; i < 60; i++) {
       row[i] = i == 59 ? 6 : i % 6;
@@ -141,17 +141,30 @@ public final class MadeTest {
     checks.row(x, 0, row);
   }
 
-  /** At every level three parts wait behind the one that goes down, each of them not in its first tree. */
+  /**
+   * At every level three empty parts wait behind the one that goes down, each in one of two trees: their
+   * numbers are the bits of the tree's number, the last part's the lowest.
+   */
   private static void manyWaiting() {
     checks.says("Rule i (from 0) in the row of rules of tree k.");
-    int[][] rules = {{0, 1, 5, 5, 5}, {1, 2, 5, 5, 5}, {2, 3, 5, 5, 5}, {3, 4, 5, 5, 5}, {4, 0, 6, 5, 5}, {4, 6}, {5}};
-    int[] row = new int[50 + 9 * 14 + 12];
-    for (int i = 0; i < row.length; i++) {
-      row[i] = i < 49 ? i % 5 : i == 49 ? 5 : 6;
-    }
+    int[][] rules = {{0, 1, 4, 4, 4}, {1, 2, 4, 4, 4}, {2, 3, 4, 4, 4}, {3, 0, 6, 4, 4}, {3, 6}, {4}, {4, 5}, {5}};
     Subject x = checks.grammar(rules, Checks.times(6, 10));
-    checks.due("trees()", x.trees(), 1);
-    checks.row(x, 0, row);
+    int waiting = 10 * 9 + 9 * 2;
+    for (long k : new long[] {0, 1, 2, 715827882, 999999998, 999999999}) {
+      int[] row = new int[40 + 2 * waiting];
+      int size = 0;
+      for (int i = 0; i < 40; i++) {
+        row[size++] = i == 39 ? 4 : i % 4;
+      }
+      for (int bit = waiting - 1; bit >= 0; bit--) {
+        boolean second = bit < 30 && (k >> bit & 1) == 1;
+        row[size++] = second ? 6 : 5;
+        if (second) {
+          row[size++] = 7;
+        }
+      }
+      checks.row(x, (int) k, java.util.Arrays.copyOf(row, size));
+    }
   }
 
   private static void manyTrees() {

@@ -71,9 +71,8 @@ public final class RefusedTest {
       calls.add(rule(new int[] {0, 6, 6, 6, 6}));
       calls.add(rule(new int[] {0, -1, -1, -1, -1}));
     }
-    if (world.name().startsWith("sixty")) {
-      calls.add(rule(Grammars.TO_61));
-      calls.add(rule(Grammars.TO_76));
+    for (int[] r : world.tooMany()) {
+      calls.add(rule(r));
     }
     for (int none : new int[] {-1, 0, 5, 10, Integer.MIN_VALUE, Integer.MAX_VALUE}) {
       calls.add(word(none));

@@ -14,6 +14,7 @@ public final class RuleTest {
     manyRulesAndSuchARule();
     sixtyStates();
     refusedForSeveralReasons();
+    whateverWasAsked();
     checks.end();
   }
 
@@ -200,6 +201,26 @@ public final class RuleTest {
     checks.due("clear()", x.clear(), 14);
     checks.due("the first of these alone", tried(x, Grammars.TO_61), 0);
     checks.due("the other one beside it", tried(x, Grammars.TO_76), 1);
+    Subject few = checks.grammar(Grammars.FROM_29);
+    checks.due("states()", few.states(), 29);
+    checks.due("a rule from 29 states to more than 60", tried(few, new int[] {2, 1, 0, 0, 5}), -1);
+    checks.due("states() behind it", few.states(), 29);
+    Subject one = checks.grammar(java.util.Arrays.copyOf(rules, 10));
+    checks.due("a rule from 59 states to more than 60", tried(one, new int[] {0, 0, 0, 4, 7}), -1);
+    checks.due("states() behind it", one.states(), 59);
+  }
+
+  private static void whateverWasAsked() {
+    checks.says("Adds a rule");
+    for (World world : World.all()) {
+      Questions.same(checks, "asked between changes, " + world.name(), world::makeAndAsk, world::make);
+      // The text first, then the rules, and questions between.
+      Questions.same(checks, "text before rules, " + world.name(), x -> {
+        world.makeText(x);
+        Questions.askSome(x);
+        world.makeRules(x);
+      }, world::make);
+    }
   }
 
   private static int tried(Subject x, int[] rule) {
@@ -207,7 +228,7 @@ public final class RuleTest {
   }
 
   private static void refusedForSeveralReasons() {
-    checks.says("NONE when left is no maker, one of these symbols is none .., there are 14 rules, there is such a rule");
+    checks.says("NONE when left is no maker, one of these symbols is none .. there is such a rule");
     Subject x = checks.grammar(Grammars.FOURTEEN);
     checks.rule(x, -1, -1, 6);
     checks.rule(x, -1, 6, 10);

@@ -9,6 +9,7 @@ public final class UsedTest {
     notAccepted();
     emptyParts();
     endless();
+    allThatThereAre();
     noSuchPart();
     noSuchMaker();
     checks.end();
@@ -75,6 +76,24 @@ public final class UsedTest {
     Subject x = checks.grammar(new int[][] {{0, 1}, {1, 2}, {2, 6}, {2, 1}}, 6);
     checks.due("trees()", x.trees(), -1);
     checks.uses(x, new int[][] {{0, 0, 1, 1}, {1, 0, 1, 1}, {2, 0, 1, 2}});
+  }
+
+  /** Every maker is any row of sixes: all parts are used with all makers. */
+  private static void allThatThereAre() {
+    checks.says("A part with its maker is USED when ..");
+    int[][] rules = {{0, 0, 0}, {0, 6}, {0}, {0, 1}, {0, 2}, {0, 3}, {0, 4}, {0, 5}, {1, 0}, {2, 0}, {3, 0}, {4, 0},
+        {5, 0}};
+    int[][] parts = new int[6 * 66][];
+    int count = 0;
+    for (int m = 0; m < 6; m++) {
+      for (int i = 0; i <= 10; i++) {
+        for (int j = i; j <= 10; j++) {
+          int own = j - i + 1 + 5 + (j - i < 2 ? 1 : 0);
+          parts[count++] = new int[] {m, i, j, m == 0 ? own : 1};
+        }
+      }
+    }
+    checks.uses(checks.grammar(rules, Checks.times(6, 10)), parts);
   }
 
   private static void noSuchPart() {

@@ -8,6 +8,7 @@ public final class WordTest {
     eachWord();
     noWord();
     tenWords();
+    askedBetween();
     checks.end();
   }
 
@@ -55,6 +56,21 @@ public final class WordTest {
     checks.words(x, 9);
     checks.due("accepted()", x.accepted(), true);
     checks.due("erase()", x.erase(), 2);
+  }
+
+  /** Asked about before, the text grows all the same. */
+  private static void askedBetween() {
+    checks.says("Puts a word (6 .. 9) behind the text.");
+    Subject x = checks.grammar(Grammars.PAIRS);
+    int[] trees = {0, 1, 1, 2, 5, 14, 42, 132, 429, 1430, 4862};
+    for (int length = 0; length <= 10; length++) {
+      checks.due("accepted() of " + length, x.accepted(), length > 0);
+      checks.due("trees() of " + length, x.trees(), trees[length]);
+      checks.due("frontier(" + length + ")", x.frontier(length), length == 0 ? 1 : length == 1 ? 2 : 3);
+      checks.due("used(0, 0, " + length + ")", x.used(0, 0, length), length > 0);
+      checks.due("length(0) of " + length, x.length(0), length == 0 ? Subject.ELEMENT : 2 * length - 1);
+      checks.due("word(6) behind " + length, x.word(6), length < 10);
+    }
   }
 
   private static void tenWords() {
