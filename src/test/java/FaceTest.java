@@ -9,6 +9,7 @@ import java.util.TreeSet;
 /** The public face of the document, and that nothing else of the class can be seen. */
 public final class FaceTest {
   private static final Checks checks = new Checks("FaceTest");
+  private static final Class<?> TYPE = NulledForest.class;
 
   private static final String[] FACE = {
     "public int NulledForest.rule(int,int,int,int,int)",
@@ -33,37 +34,68 @@ public final class FaceTest {
   };
 
   public static void main(String[] args) {
-    Class<?> type = NulledForest.class;
+    theClass();
+    theConstant();
+    theMembers();
+    namesOfItsOwn();
+    classesInside();
+    checks.end();
+  }
+
+  private static void theClass() {
+    checks.says("public final class NulledForest");
+    checks.due("a final public class", TYPE.getModifiers(), Modifier.PUBLIC | Modifier.FINAL);
+    checks.due("whether it has no package", TYPE.getPackageName().isEmpty(), true);
+    checks.due("whether it stands below Object alone", TYPE.getSuperclass() == Object.class, true);
+    checks.due("interfaces", TYPE.getInterfaces().length, 0);
+    checks.due("type parameters", TYPE.getTypeParameters().length, 0);
+  }
+
+  private static void theConstant() {
+    checks.says("public static final int NONE = -1;");
+    checks.due("NONE", NulledForest.NONE, -1);
+  }
+
+  /** The constant, the constructor and the 16 methods, and no other member that can be seen. */
+  private static void theMembers() {
+    checks.says("The public face");
     Set<String> seen = new TreeSet<>();
-    Set<String> names = new TreeSet<>();
-    for (Method m : type.getDeclaredMethods()) {
-      if (!Modifier.isPrivate(m.getModifiers()) && !m.isSynthetic()) {
+    for (Method m : TYPE.getDeclaredMethods()) {
+      if (!Modifier.isPrivate(m.getModifiers())) {
         seen.add(m.toString());
-        names.add(m.getName());
       }
     }
-    for (Field f : type.getDeclaredFields()) {
+    for (Field f : TYPE.getDeclaredFields()) {
       if (!Modifier.isPrivate(f.getModifiers())) {
         seen.add(f.toString());
       }
     }
-    for (Constructor<?> c : type.getDeclaredConstructors()) {
+    for (Constructor<?> c : TYPE.getDeclaredConstructors()) {
       seen.add(c.toString());
     }
-    Set<String> want = new TreeSet<>(Arrays.asList(FACE));
-    same(want, seen);
-    checks.due("a final public class", type.getModifiers(), Modifier.PUBLIC | Modifier.FINAL);
-    for (Method m : type.getDeclaredMethods()) {
+    same(new TreeSet<>(Arrays.asList(FACE)), seen);
+  }
+
+  private static void namesOfItsOwn() {
+    checks.says("No private method bears the name of a public one.");
+    Set<String> names = new TreeSet<>();
+    for (Method m : TYPE.getMethods()) {
+      names.add(m.getName());
+    }
+    for (Method m : TYPE.getDeclaredMethods()) {
       if (Modifier.isPrivate(m.getModifiers())) {
         checks.due("whether private " + m.getName() + " bears a public name", names.contains(m.getName()), false);
       }
     }
-    for (Class<?> inside : type.getDeclaredClasses()) {
+  }
+
+  private static void classesInside() {
+    checks.says("the classes inside it, which are private or package-visible and static");
+    for (Class<?> inside : TYPE.getDeclaredClasses()) {
       int m = inside.getModifiers();
       checks.due(inside + " is static", Modifier.isStatic(m), true);
       checks.due(inside + " is hidden", Modifier.isPublic(m) || Modifier.isProtected(m), false);
     }
-    checks.end();
   }
 
   private static void same(Set<String> want, Set<String> seen) {

@@ -26,6 +26,7 @@ public final class ReferenceTest {
 
   public static void main(String[] args) {
     int times = args.length == 0 ? 1 : Integer.parseInt(args[0]);
+    seed += args.length < 2 ? 0 : Long.parseLong(args[1]);
     for (int run = 0; run < RUNS * times; run++) {
       begin();
       play("run " + run + " ", kind(run));
