@@ -4,6 +4,7 @@ import java.util.List;
 public final class ReferenceTest {
   private static final int RUNS = 400;
   private static final int LIVE_RUNS = 3000;
+  private static final int RICH_RUNS = 1000;
 
   /** How the rules of a grammar are drawn: from how many makers and words, and in which way. */
   private record Kind(int makers, int words, int empties, int way) {
@@ -34,6 +35,10 @@ public final class ReferenceTest {
     for (int run = 0; run < LIVE_RUNS * times; run++) {
       begin();
       live("live run " + run + " ", kind(run));
+    }
+    for (int run = 0; run < RICH_RUNS * times; run++) {
+      begin();
+      rich("rich run " + run + " ");
     }
     System.out.println("accepted, endless, capped, several trees, refused for states, 60 states, rows: "
         + java.util.Arrays.toString(coverage));
@@ -94,6 +99,26 @@ public final class ReferenceTest {
     }
   }
 
+  /** A word stands before each maker that does not lie below its left side: many trees, and seldom endless. */
+  private static void rich(String run) {
+    for (int n = 0; n < 14; n++) {
+      int left = n < 6 ? n : below(6);
+      int[] side = {-1, -1, -1, -1};
+      int size = n >= 6 && below(4) == 0 ? 0 : 1 + below(4);
+      boolean word = false;
+      for (int t = 0; t < size; t++) {
+        boolean next = below(4) == 0 || left == 5 && !word;
+        word |= next;
+        side[t] = next || left == 5 ? 6 : word && below(3) == 0 ? below(6) : left + 1 + below(5 - left);
+      }
+      addRule(run, left, side);
+    }
+    for (int length = 7 + below(4); length > 0; length--) {
+      checks.due(run + "word(6)", x.word(6), r.word(6));
+    }
+    askTrees(run);
+  }
+
   private static int size(Kind kind) {
     if (kind.way == Kind.LONG) {
       return 4;
@@ -121,6 +146,10 @@ public final class ReferenceTest {
     if (below(50) == 0) {
       side[below(4)] = below(20) - 6;
     }
+    addRule(run, left, side);
+  }
+
+  private static void addRule(String run, int left, int[] side) {
     int want = r.rule(left, side[0], side[1], side[2], side[3]);
     checks.due(run + "rule(" + left + ", " + java.util.Arrays.toString(side) + ")",
         x.rule(left, side[0], side[1], side[2], side[3]), want);
